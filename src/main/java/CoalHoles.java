@@ -416,6 +416,10 @@ public final class CoalHoles {
         return value >= least && value <= most;
     }
 
+    private static boolean isFact(int token) {
+        return isWithin(token, LEFT, DATE);
+    }
+
     private static boolean isContent(int choice, int moreByHolding) {
         return choice == 1 ? moreByHolding >= 0 : moreByHolding <= 0;
     }
@@ -588,8 +592,14 @@ public final class CoalHoles {
         /** The name that is due; 0, which is nobody's, with a fault. Facts are not kept from being names. */
         long expectName() {
             long found = name;
-            expect(token >= LEFT && token <= DATE ? token : NAME);
-            return fault == 0 ? found : 0;
+            if (token != NAME && !isFact(token)) {
+                refuse(CANT_STAND);
+            }
+            if (fault != 0) {
+                return 0;
+            }
+            next();
+            return found;
         }
     }
 
@@ -631,7 +641,7 @@ public final class CoalHoles {
         /** True: a whole part was read; false: what was read wants a part behind it. */
         private boolean readPart(Tape tape) {
             int token = tape.token;
-            boolean isWhole = token == NUMBER || token >= LEFT && token <= DATE;
+            boolean isWhole = token == NUMBER || isFact(token);
             if (!isWhole && token != NOT && token != '(') {
                 tape.refuse(CANT_STAND);
                 return false;
@@ -734,15 +744,13 @@ public final class CoalHoles {
                     case SAME: push(same); break;
                     case DATE: push(date); break;
                     case NOT: push(pop() == 0 ? 1 : 0); break;
-                    default: push(item < 0 ? code[i] : joined(item));
+                    default: push(item < 0 ? code[i] : joined(item, pop(), pop()));
                 }
             }
             return pop() != 0;
         }
 
-        private int joined(int operator) {
-            int second = pop();
-            int first = pop();
+        private static int joined(int operator, int second, int first) {
             switch (operator) {
                 case '*': return first * second;
                 case '+': return first + second;
@@ -1373,7 +1381,7 @@ public final class CoalHoles {
             }
             learnLaw(terrace, state);
             bestCost = Integer.MAX_VALUE;
-            lodge(terrace, state, 0, 0);
+            lodge(this, terrace, state, 0, 0);
             seized = Integer.bitCount(others) + bestCost / COST_SEIZED;
         }
 
@@ -1421,32 +1429,34 @@ public final class CoalHoles {
         }
 
         /** Rows come in their order, so a later one has to be better, not as good. */
-        private void lodge(Terrace terrace, State state, int guest, int cost) {
-            if (guest > terrace.guests || cost + leastFrom[guest] >= bestCost) {
+        private static void lodge(Lodgings search, Terrace terrace, State state, int guest, int cost) {
+            if (guest > terrace.guests || cost + search.leastFrom[guest] >= search.bestCost) {
                 return;
             }
             if (guest == terrace.guests) {
-                bestCost = cost;
-                for (int i = 0; i < MOST_GUESTS; i++) {
-                    best[i] = i < guest ? row[i] : NONE;
-                }
+                search.keepRow(guest, cost);
                 return;
             }
-            row[guest] = NONE;
-            if (!isLodged(guest)) {
-                lodge(terrace, state, guest + 1, cost);
-                return;
-            }
-            for (int hole = 0; hole < terrace.holes; hole++) {
-                if (isTaken(terrace, state, hole, guest)) {
-                    row[guest] = hole;
-                    state.inside[hole] |= 1 << guest;
-                    lodge(terrace, state, guest + 1, cost + costOf(terrace, guest, hole));
-                    state.inside[hole] &= ~(1 << guest);
+            if (search.isLodged(guest)) {
+                for (int hole = 0; hole < terrace.holes; hole++) {
+                    if (search.isTaken(terrace, state, hole, guest)) {
+                        search.row[guest] = hole;
+                        state.inside[hole] |= 1 << guest;
+                        lodge(search, terrace, state, guest + 1, cost + search.costOf(terrace, guest, hole));
+                        state.inside[hole] &= ~(1 << guest);
+                    }
                 }
+                cost += search.costOf(terrace, guest, NONE);
             }
-            row[guest] = NONE;
-            lodge(terrace, state, guest + 1, cost + costOf(terrace, guest, NONE));
+            search.row[guest] = NONE;
+            lodge(search, terrace, state, guest + 1, cost);
+        }
+
+        private void keepRow(int guests, int cost) {
+            bestCost = cost;
+            for (int guest = 0; guest < guests; guest++) {
+                best[guest] = row[guest];
+            }
         }
     }
 }
