@@ -21,7 +21,7 @@ public final class CoalHoles {
     private static final int LONGEST = 99;
     private static final int LINE_IN_THE_SLACK = 20;
 
-    // Tokens; a sign ( ) < = + - * ; is its own number.
+    // Tokens; a sign is its own number.
     private static final int END = 0;
     private static final int BAD = 1;
     private static final int NUMBER = 2;
@@ -510,8 +510,9 @@ public final class CoalHoles {
             } else if (isLetter(signs[at])) {
                 takeWord();
             } else {
+                // One that is no token is expected nowhere, so it needs no number of its own kind.
                 behind = at + 1;
-                token = isSign(signs[at]) ? signs[at] : BAD;
+                token = signs[at];
             }
         }
 
@@ -550,10 +551,6 @@ public final class CoalHoles {
 
         private static boolean isLetter(int sign) {
             return sign >= 'a' && sign <= 'z';
-        }
-
-        private static boolean isSign(int sign) {
-            return sign >= '(' && sign <= '+' || sign == '-' || sign >= ';' && sign <= '=';
         }
 
         /** The token that is next is at fault, unless one ahead of it was. */
@@ -619,7 +616,6 @@ public final class CoalHoles {
 
         /** Up to the ; that ends it, which stays on the tape. */
         void readFrom(Tape tape) {
-            length = 0;
             waiting = 0;
             nested = 0;
             boolean isPartDue = true;
@@ -947,10 +943,6 @@ public final class CoalHoles {
         }
 
         private void settle() {
-            if (colds == 0) {
-                cold[0] = 1;
-                colds = 1;
-            }
             if (sack == 0) {
                 sack = 5;
             }

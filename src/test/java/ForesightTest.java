@@ -72,6 +72,12 @@ public final class ForesightTest {
         Check.due("refuge(5)", x.refuge(5), -1);
         Check.due("refuge(-1)", x.refuge(-1), -1);
         Check.due("refuge(MIN)", x.refuge(Integer.MIN_VALUE), -1);
+        CoalHoles y = Check.onTerrace("hole a flag 1 coal 32 burns 1;hole b flag 1 coal 33 burns 1;"
+            + "hole c flag 1 coal 34 burns 1;hole d flag 1 coal 9 burns 0;guest p plain flag 1;cold 0 0 1;takes left<34;");
+        Check.due("for ever is longer than 99", y.refuge(0), 3);
+        CoalHoles z = Check.onTerrace("hole a flag 1 coal 32 burns 1;hole b flag 1 coal 33 burns 1;"
+            + "hole c flag 1 coal 34 burns 1;hole d flag 1 coal 9 burns 0;guest p plain flag 1;cold 0 0 1;");
+        Check.due("SAFE is told up to 99 alone: the first beyond", z.refuge(0), 2);
         Check.due("none takes him", Check.onTerrace("hole a flag 1 coal 9 burns 1;guest p plain flag 1;takes 0;")
             .refuge(0), -1);
     }

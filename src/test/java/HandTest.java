@@ -13,6 +13,7 @@ public final class HandTest {
         undo();
         undoSixteen();
         marks();
+        markedWinters();
         Check.end();
     }
 
@@ -222,5 +223,45 @@ public final class HandTest {
         x.mark(0, true);
         x.mark(3, true);
         Check.due("laid anew", x.count(3), 2);
+    }
+
+    /** A mark holds all of the winter and all that was heard, whatever is told and heard behind it. */
+    private static void markedWinters() {
+        CoalHoles x = Check.onTerrace(TERRACE);
+        Check.winter(x, "down p c;down p a;through p b;day;bring a;");
+        x.hear(1, true);
+        x.hear(9, false);
+        int[] due = {x.judged(0), x.judged(1), x.judged(2), x.coals(0), x.coals(1), x.coals(2)};
+        x.mark(1, false);
+        for (int i = 0; i < 3; i++) {
+            Check.winter(x, "down w a;down w b;day;bring b;bring c;bring c;");
+            x.mark(2, false);
+            x.mark(1, true);
+            int[] got = {x.judged(0), x.judged(1), x.judged(2), x.coals(0), x.coals(1), x.coals(2)};
+            for (int what = 0; what < 6; what++) {
+                Check.due("as it was marked: " + what, got[what], due[what]);
+            }
+            x.hear(2, false);
+            x.mark(3, false);
+            x.mark(2, true);
+            Check.due("the other winter", x.judged(0), 1);
+            Check.due("the other winter", x.judged(1), -1);
+            Check.due("the other winter", x.judged(2), 3);
+            x.mark(3, true);
+            Check.due("3, 4, 5, 6 less 2 burnt", x.coals(2), 6);
+            x.mark(1, true);
+        }
+        Check.due("judged(0)", due[0], 0);
+        Check.due("judged(1)", due[1], 3);
+        Check.due("coals", due[3], 16);
+        CoalHoles y = new CoalHoles();
+        y.mark(0, false);
+        y.hear(3, true);
+        y.mark(1, false);
+        y.mark(0, true);
+        y.hear(4, false);
+        y.mark(1, true);
+        Check.due("7 to 60", y.coals(1), 7);
+        Check.due("7 to 60", y.coals(2), 60);
     }
 }

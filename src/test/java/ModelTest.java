@@ -65,7 +65,7 @@ public final class ModelTest {
         if (i == 0 || below(60) == 0) {
             return tell(terraceText(), true);
         }
-        if (below(30) == 0) {
+        if (below(20) == 0) {
             return tell(winterText(), false);
         }
         int a = index(guests);
@@ -91,14 +91,14 @@ public final class ModelTest {
     private String question(int a, int b) {
         int w;
         int d;
-        switch (below(21)) {
+        switch (below(23)) {
             case 0: case 1:
                 w = what(0, 5);
                 return both("hole " + b + " " + w, real.hole(b, w), model.hole(b, w));
             case 2: case 3:
                 w = what(0, 4);
                 return both("guest " + a + " " + w, real.guest(a, w), model.guest(a, w));
-            case 4:
+            case 4: case 20:
                 w = what(0, 2);
                 return both("judged " + w, real.judged(w), model.judged(w));
             case 5:
@@ -146,9 +146,9 @@ public final class ModelTest {
                 int seed = below(20) == 0 ? new int[] {-1, 10000, 9999}[below(3)] : below(10000);
                 return both("winters " + seed + " " + d + " " + w, real.winters(seed, d, w), model.winters(seed, d, w));
             default:
-                if (below(2) == 0) {
+                if (below(4) > 0) {
                     w = what(0, 3);
-                    boolean back = below(2) == 0;
+                    boolean back = below(3) > 0;
                     return both("mark " + w + " " + back, real.mark(w, back), model.mark(w, back));
                 }
                 w = what(0, 12);

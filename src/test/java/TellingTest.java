@@ -213,7 +213,14 @@ public final class TellingTest {
         Check.due("no war", x.pairs(), 0);
         Check.due("the law is not told", x.hole(0, 5), 3);
         Check.due("nobody is inside", x.hole(0, 3), 0);
+        for (int i = 0; i < 3; i++) {
+            Check.due("the same once more", Check.terrace(x, HOLES + GUESTS
+                + "wall a e;wall d e;war 0 9;war 9 8;cold 1 2;sack 3;takes 1;"), 0);
+            Check.due("beside", x.hole(4, 4), 9);
+            Check.due("pairs", x.pairs(), 4);
+        }
         Check.due("an empty one", Check.terrace(x, ""), 0);
+        Check.due("cold", x.count(4), 1);
         Check.due("count(0)", x.count(0), 0);
         Check.due("count(1)", x.count(1), 0);
         Check.due("no names", Check.winter(x, "bring a;"), Check.fault(2, 6));
