@@ -1367,11 +1367,13 @@ public final class CoalHoles {
             street = state.streetBits(terrace);
             lasting = state.lastingBits(terrace, terrace.coldOver(state.date, days));
             int others = state.seizedIfLasting(terrace, lasting) & ~street;
+            if (street != 0) {
+                learnLaw(terrace, state);
+            }
             leastFrom[terrace.guests] = 0;
             for (int guest = terrace.guests - 1; guest >= 0; guest--) {
-                leastFrom[guest] = leastFrom[guest + 1] + (isLodged(guest) ? leastCost(terrace, guest) : 0);
+                leastFrom[guest] = leastFrom[guest + 1] + (isLodged(guest) ? leastCost(terrace, state, guest) : 0);
             }
-            learnLaw(terrace, state);
             bestCost = Integer.MAX_VALUE;
             lodge(this, terrace, state, 0, 0);
             seized = Integer.bitCount(others) + bestCost / COST_SEIZED;
@@ -1395,13 +1397,17 @@ public final class CoalHoles {
         }
 
         private boolean isTaken(Terrace terrace, State state, int hole, int guest) {
-            int kind = terrace.kinds[guest];
-            if (kind == CAT) {
-                return true;
+            return terrace.kinds[guest] == CAT
+                || state.isPeaceful(terrace, hole, guest) && (lawfulFromNow(terrace, state, hole, guest) & 1) != 0;
+        }
+
+        /** Whether the law lets him in now, and if more are inside, as bits. */
+        private int lawfulFromNow(Terrace terrace, State state, int hole, int guest) {
+            if (terrace.kinds[guest] == ENVOY) {
+                return 1;
             }
             int same = terrace.holeFlags[hole] == terrace.guestFlags[guest] ? 1 : 0;
-            return state.isPeaceful(terrace, hole, guest) && (kind == ENVOY
-                || (lawful[hole * 2 + same] >> Integer.bitCount(state.inside[hole]) & 1) != 0);
+            return lawful[hole * 2 + same] >> Integer.bitCount(state.inside[hole]);
         }
 
         private int costOf(Terrace terrace, int guest, int hole) {
@@ -1412,15 +1418,17 @@ public final class CoalHoles {
             return kind == WANTED ? COST_SEIZED + 1 : 1;
         }
 
-        private int leastCost(Terrace terrace, int guest) {
+        private int leastCost(Terrace terrace, State state, int guest) {
             int cost = costOf(terrace, guest, NONE);
             for (int hole = 0; hole < terrace.holes; hole++) {
-                cost = Math.min(cost, costOf(terrace, guest, hole));
+                if (terrace.kinds[guest] == CAT || lawfulFromNow(terrace, state, hole, guest) != 0) {
+                    cost = Math.min(cost, costOf(terrace, guest, hole));
+                }
             }
             return cost;
         }
 
-        /** Rows come in their order, so a later one has to be better, not as good. */
+        /** Rows come in their order, so a later one has to be better, not as good; as deep as there are guests. */
         private static void lodge(Lodgings search, Terrace terrace, State state, int guest, int cost) {
             if (guest > terrace.guests || cost + search.leastFrom[guest] >= search.bestCost) {
                 return;
