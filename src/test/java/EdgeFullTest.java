@@ -256,7 +256,8 @@ public final class EdgeFullTest {
         Check.dueAt("coals", Check.at(0, 1, 2), x::coals, 4, 19, 22);
         CoalHoles y = new CoalHoles();
         y.mark(0, false);
-        for (int i = 1; i <= 8; i++) {
+        // The first of the 8 tells the most.
+        for (int i = 8; i >= 1; i--) {
             y.hear(i, true);
         }
         y.mark(1, false);

@@ -14,6 +14,7 @@ public final class ModelTest {
     private final Model model = new Model();
     private int holes;
     private int guests;
+    private int calls;
 
     private ModelTest(long seed) {
         random = new Random(seed);
@@ -29,8 +30,10 @@ public final class ModelTest {
     }
 
     private void run(int seed) {
-        for (int i = 0; i < 300; i++) {
+        // The document promises 512 calls of an object; the last text that is told takes some calls of feed.
+        for (int i = 0; i < 300 && calls < 512 - 80; i++) {
             String call = step(i);
+            calls++;
             if (call != null) {
                 Check.due("run " + seed + ", call " + i + ", " + call, got, want);
                 if (got != want) {
@@ -189,6 +192,7 @@ public final class ModelTest {
             long b = Check.bytes(text, i + 8);
             long c = Check.bytes(text, i + 16);
             Check.due("feed of " + text, real.feed(a, b, c), model.feed(a, b, c));
+            calls++;
         }
         got = isTerrace ? real.terrace() : real.winter();
         want = isTerrace ? model.terrace() : model.winter();

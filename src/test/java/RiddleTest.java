@@ -94,9 +94,10 @@ public final class RiddleTest {
     }
 
     private static void rests() {
-        CoalHoles x = new CoalHoles();
         // Both hold (3) rests when both >= gets; one alone (1, 2) when loses is 0 and gets >= both; none (0) always.
         for (int both = 0; both <= 9; both++) {
+            // A new object for each: 512 calls are promised of one.
+            CoalHoles x = new CoalHoles();
             for (int loses = 0; loses <= 9; loses++) {
                 for (int gets = 0; gets <= 9; gets++) {
                     boolean isAlone = loses == 0 && gets >= both;
@@ -117,9 +118,10 @@ public final class RiddleTest {
         int[][] wrong = {{-1, 0, 0, -1}, {10, 0, 0, -1}, {0, -1, 0, -1}, {0, 10, 0, -1}, {0, 0, -1, -1}, {0, 0, 10, -1},
             {0, 0, 0, -2}, {0, 0, 0, 4}, {0, 0, 0, Integer.MAX_VALUE}, {0, 0, 0, Integer.MIN_VALUE},
             {Integer.MIN_VALUE, 0, 0, 0}};
+        CoalHoles y = new CoalHoles();
         for (int[] w : wrong) {
             Check.due("rests(" + w[0] + ", " + w[1] + ", " + w[2] + ", " + w[3] + ")",
-                Check.rests(x, w[0], w[1], w[2], w[3]), Check.THROWN);
+                Check.rests(y, w[0], w[1], w[2], w[3]), Check.THROWN);
         }
     }
 }
