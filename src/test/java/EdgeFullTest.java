@@ -19,6 +19,7 @@ public final class EdgeFullTest {
         fullMark();
         smallerBehindLarger();
         lodgingBehindLarger();
+        lawBehindLaw();
         behindAFault();
         Check.end();
     }
@@ -314,6 +315,18 @@ public final class EdgeFullTest {
         Check.lodgings(x, 14, 2, -1, -1, 4, 0, -1);
         Check.due("same alone", Check.terrace(x, HOLES + GUESTS + "takes same;"), 0);
         Check.lodgings(x, 10, 0, 4, 3, 0, 0, 0);
+    }
+
+    private static void lawBehindLaw() {
+        Check.sentence("TERRACE, E", "a law that was asked leaves nothing for the law that is told next");
+        CoalHoles x = new CoalHoles();
+        // Coal that is the number of a sign: 40 to 45 are ( ) * + , - and 59 to 60 are ; <
+        for (int coal : new int[] {40, 41, 42, 43, 44, 45, 59, 60, 42}) {
+            Check.due("told", Check.terrace(x, "hole a flag 1 coal " + coal + " burns 0;guest p plain flag 1;takes left;"), 0);
+            Check.due("takes left", x.hole(0, 5), 1);
+            Check.due("told", Check.terrace(x, "hole a flag 1 coal " + coal + " burns 0;guest p plain flag 1;takes left-" + coal + ";"), 0);
+            Check.due("takes left less all of it", x.hole(0, 5), 0);
+        }
     }
 
     private static void behindAFault() {
